@@ -173,10 +173,14 @@ public final class VotingFloor {
         }
         past.note(floor);
         int done = 0;
+        int next = 0;
         boolean refused = false;
-        for (int at = 0; at < text.length && !refused; at += Text.actLength(text.at(at))) {
-            refused = act(at) < 0;
-            done += refused ? 0 : 1;
+        for (int at = 0; at < text.length && !refused; at++) {
+            if (at == next) {
+                next += Text.actLength(text.at(at));
+                refused = act(at) < 0;
+                done += refused ? 0 : 1;
+            }
         }
         if (done > 0) {
             past.commit();
@@ -1049,18 +1053,18 @@ public final class VotingFloor {
         }
     }
 
-    /** Numbers of which the last one put is the first one taken. */
+    /** Signs that wait, of which the last one put is the first one taken. */
     private static final class Pile {
-        private final int[] numbers = new int[Rule.MOST_SIGNS + 1];
+        private final int[] signs = new int[Rule.MOST_SIGNS + 1];
         private int length = 0;
 
         void clear() {
             length = 0;
         }
 
-        void push(int number) {
-            if (length < numbers.length) {
-                numbers[length] = number;
+        void push(int sign) {
+            if (length < signs.length) {
+                signs[length] = sign;
                 length++;
             }
         }
@@ -1070,15 +1074,12 @@ public final class VotingFloor {
                 return 0;
             }
             length--;
-            return numbers[length];
+            return signs[length];
         }
 
+        /** The one that pop() would take; 0, which is no sign that waits, if there is none. */
         int top() {
-            return length > 0 ? numbers[length - 1] : 0;
-        }
-
-        boolean isEmpty() {
-            return length == 0;
+            return length > 0 ? signs[length - 1] : 0;
         }
     }
 
@@ -1100,7 +1101,7 @@ public final class VotingFloor {
         private int length = 0;
         /** Whether it asks how many others stand there, which is dear to count. */
         boolean asksCrowd = false;
-        private final Pile values = new Pile();
+        private final int[] values = new int[MOST_SIGNS + 1];
         private final Pile waiting = new Pile();
         private boolean wantsThing = true;
         private int depth = 0;
@@ -1110,10 +1111,7 @@ public final class VotingFloor {
         private int digits = 0;
 
         Rule() {
-            code[0] = -1;
-            code[1] = -2;
-            code[2] = -'-';
-            length = 3;
+            becomeNone();
         }
 
         void become(Rule other) {
@@ -1242,9 +1240,9 @@ public final class VotingFloor {
             return true;
         }
 
-        /** What waits and binds as much or more is done first; an open bracket binds nothing. */
+        /** What waits and binds as much or more is done first; an open bracket, and an empty pile, bind nothing. */
         private void emitWaiting(int rank) {
-            for (int k = 0; k <= MOST_SIGNS && !waiting.isEmpty() && rankOf(waiting.top()) >= rank; k++) {
+            for (int k = 0; k <= MOST_SIGNS && rankOf(waiting.top()) >= rank; k++) {
                 emit(-waiting.pop());
             }
         }
@@ -1269,21 +1267,24 @@ public final class VotingFloor {
         }
 
         int value(int[] things) {
-            values.clear();
+            int top = 0;
             for (int k = 0; k < length && k < code.length; k++) {
                 int part = code[k];
-                if (part >= 0) {
-                    values.push(part);
-                } else if (part >= -MANY_THINGS) {
-                    values.push(-1 - part < things.length ? things[-1 - part] : 0);
+                if (part >= -MANY_THINGS) {
+                    if (top < values.length && -1 - part < things.length) {
+                        values[top] = part >= 0 ? part : things[-1 - part];
+                        top++;
+                    }
                 } else if (part == -NEGATE) {
-                    values.push(-values.pop());
-                } else {
-                    int right = values.pop();
-                    values.push(done(-part, values.pop(), right));
+                    if (top > 0) {
+                        values[top - 1] = -values[top - 1];
+                    }
+                } else if (top > 1) {
+                    top--;
+                    values[top - 1] = done(-part, values[top - 1], values[top]);
                 }
             }
-            return values.pop();
+            return top > 0 ? values[top - 1] : 0;
         }
 
         private static int done(int sign, int left, int right) {
