@@ -1182,7 +1182,6 @@ public final class VotingFloor {
             } else if (thing >= 0) {
                 emit(-1 - thing);
                 asksCrowd |= thing == CROWD;
-                digits = 0;
             } else {
                 return false;
             }

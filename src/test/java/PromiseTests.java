@@ -215,6 +215,11 @@ public final class PromiseTests {
             is("one(0, 5) by " + one[0], floor.one(0, 5), (Integer) one[1]);
         }
         VotingFloor floor = withPeople("5+3;1+4;1+4");
+        is("rule() of 39 minus", tell(floor, "-".repeat(39) + "1").rule(), 0);
+        is("one(0, 5) by 39 minus", floor.one(0, 5), -1);
+        is("rule() of 38 minus", tell(floor, "-".repeat(38) + "1").rule(), 0);
+        is("one(0, 5) by 38 minus", floor.one(0, 5), 1);
+        is("rule() of 40 minus", tell(floor, "-".repeat(40)).rule(), -41);
         tell(floor, "i-1").rule();
         is("one(0, 5) by i-1", floor.one(0, 5), -1);
         is("one(2, 5) by i-1", floor.one(2, 5), 1);
@@ -622,6 +627,14 @@ public final class PromiseTests {
         tell(slow, "n=0").rule();
         is("swings(): at 1, 8, .., 57", slow.swings(), 57);
         checks.rowIs(slow, 1);
+        tell(slow, "n=3").rule();
+        is("swings(): at 4, 11, .., 60", slow.swings(), 60);
+        checks.rowIs(slow, 1);
+        is("level(): in 60", slow.level(), 1);
+        checks.rowIs(slow, 60);
+        tell(slow, "n=4").rule();
+        is("swings(): at 5, 12, .., 61", slow.swings(), -2);
+        is("level(): in 61", slow.level(), 0);
     }
 
     private static void levels() {
@@ -661,6 +674,14 @@ public final class PromiseTests {
         tell(late, "1-i*2*(n>3)").rule();
         is("rest(), the first one ever", late.rest(), 45);
         checks.rowIs(late, 2018);
+        VotingFloor latest = placed("1+9;1+9", 9, -1);
+        tell(latest, "0").rule();
+        latest.minutes(6);
+        tell(latest, "1-i*2*(n>3)").rule();
+        is("rest(), the last one to be told", latest.rest(), 60);
+        checks.rowIs(latest, 2018);
+        latest.leads(1, -2);
+        is("rest(), a week later", latest.rest(), -2);
     }
 
     // ---- so that it is carried
@@ -703,6 +724,10 @@ public final class PromiseTests {
         checks.rowIs(far, 9, 0);
         is("walks(3), the heavier first", far.walks(3), 9);
         checks.rowIs(far, 9, 0);
+        VotingFloor five = placed("4+1;4+1;1+1;3+1;9-1", 7, 6, 5, 4, -8);
+        five.sacks(4, 4);
+        is("walks(15): 36 are wanted", five.walks(15), 11);
+        checks.rowIs(five, 2, 3, 1, 5, 0);
         is("walks(0), nobody", new VotingFloor().walks(0), -2);
     }
 
@@ -750,6 +775,9 @@ public final class PromiseTests {
         checks.rowIs(floor, 2020);
         floor.steps(0);
         is("bears(0), OFF", floor.bears(0), -2);
+        VotingFloor most = placed("1+3;9-9", 1, -1);
+        is("bears(0): 9", most.bears(0), 9);
+        checks.rowIs(most, 2001);
     }
 
     private static void canvassing() {
@@ -1026,6 +1054,11 @@ public final class PromiseTests {
         tell(floor, "(c>0)-(c<0)").rule();
         is("looks(0)", floor.looks(0), 1);
         checks.rowIs(floor, 9);
+        // the other one goes to the east but when n is 0; he is on 7 behind 19 minutes, and only then one walks
+        VotingFloor last = placed("1+1;1+1", 0, -9);
+        tell(last, "i*(n>0)+(1-i)*c*(m>6)").rule();
+        is("looks(0): the last minute", last.looks(0), 20);
+        checks.rowIs(last, 9);
     }
 
     // ---- which one it was
@@ -1078,6 +1111,9 @@ public final class PromiseTests {
         floor.heard(1, 1);
         floor.heard(4, 0);
         is("fits(), all of it", floor.fits(), 1);
+        floor.leads(0, 1);
+        floor.heard(3, 1);
+        is("fits(), next to the pin", floor.fits(), 1);
         floor.steps(0);
         is("fits(), as it is now", floor.fits(), 0);
         checks.rowIs(floor, 0);
@@ -1104,6 +1140,11 @@ public final class PromiseTests {
         floor.heard(4, 0);
         is("asks(): none fits", floor.asks(), -2);
         checks.rowIs(floor, 1);
+        VotingFloor heaviest = withPeople("9+1;9+1");
+        heaviest.sacks(0, 9);
+        heaviest.sacks(1, 8);
+        is("asks(): LOAD 18 or more", heaviest.asks(), 18);
+        checks.rowIs(heaviest, 1);
         VotingFloor byWish = withPeople("1+1;1+0");
         is("asks(): for it or not", byWish.asks(), 20);
         VotingFloor byPlace = placed("1+1;1+1", 3, 2);
