@@ -442,6 +442,24 @@ public final class ActEdgeTests {
             }
             is("undo()", floor.undo(), -1);
         }
+        checks.about("15: such as were done: what is refused takes the place of none");
+        for (int acts : new int[] {15, 16, 20, 31}) {
+            int done = acts;
+            edges.refused(() -> often(done), "leads(0, 0)", -2, floor -> floor.leads(0, 0));
+            edges.refused(() -> often(done), "leads(1, 0)", -1, floor -> floor.leads(1, 0));
+            edges.refused(() -> often(done), "sacks(0, 10)", -1, floor -> floor.sacks(0, 10));
+            edges.refused(() -> often(done), "steps(1)", -1, floor -> floor.steps(1));
+            edges.refused(() -> often(done), "turnsTo(0, 3)", -2, floor -> floor.turnsTo(0, 3));
+            edges.refused(() -> often(done), "noon(12)", -2, floor -> floor.noon(12));
+            edges.refused(() -> often(done), "minutes(61)", -1, floor -> floor.minutes(61));
+            edges.refusedText(() -> often(done), "n1x", -3, VotingFloor::morning);
+            VotingFloor none = often(done);
+            tell(none, "l0e0").morning();
+            none.tips();
+            VotingFloor other = often(done);
+            other.tips();
+            edges.alike("morning() of which none was done", none, other);
+        }
         checks.about("15: undone, then others done");
         VotingFloor floor = withPeople("5+3");
         for (int v = 1; v <= 9; v++) {
@@ -455,6 +473,15 @@ public final class ActEdgeTests {
         is("one(0, 3)", floor.one(0, 3), 7);
         is("undo()", floor.undo(), 6);
         is("one(0, 3)", floor.one(0, 3), 6);
+    }
+
+    /** So many sacks, one behind another. */
+    private static VotingFloor often(int acts) {
+        VotingFloor floor = withPeople("5+3");
+        for (int k = 1; k <= acts; k++) {
+            floor.sacks(0, k % 10);
+        }
+        return floor;
     }
 
     private static void undoForgotten() {

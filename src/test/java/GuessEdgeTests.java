@@ -184,6 +184,11 @@ public final class GuessEdgeTests {
         off.steps(0);
         is("looks(0), OFF", off.looks(0), 0);
         checks.rowIs(off, 19);
+        off.leads(0, -9);
+        for (int k = 0; k < 2; k++) {
+            is("looks(0), OFF at the wall", off.looks(0), 0);
+            checks.rowIs(off, 19);
+        }
         VotingFloor one = withPeople("5+3");
         one.seen(0, 20, 3);
         is("looks(0), one is left", one.looks(0), 0);
@@ -194,6 +199,19 @@ public final class GuessEdgeTests {
         VotingFloor wall = placed("5+3", 9);
         is("looks(0), at the wall", wall.looks(0), 18);
         checks.rowIs(wall, 1);
+        is("looks(0), once more", wall.looks(0), 18);
+        checks.rowIs(wall, 1);
+        VotingFloor sides = withPeople("5+3");
+        tell(sides, "(c>0)-(c<0)").rule();
+        is("looks(0), in 1", sides.looks(0), 1);
+        checks.rowIs(sides, 9);
+        tell(sides, "((c>0)-(c<0))*(n>0)").rule();
+        is("looks(0), in 2", sides.looks(0), 2);
+        checks.rowIs(sides, 9);
+        VotingFloor west = withPeople("5+3");
+        tell(west, "-1*(c<9)").rule();
+        is("looks(0), the most in the west", west.looks(0), 1);
+        checks.rowIs(west, 18);
         checks.about("39: in how many MINUTES (0 .. 20)");
         // the floor is above 6 only behind 19 minutes, when the other one is on 7: then he walks as he wishes
         VotingFloor last = placed("1+1;1+1", 0, -9);
@@ -430,9 +448,13 @@ public final class GuessEdgeTests {
                 is("plank(" + n + ", " + k + ")", new VotingFloor().plank(n, k), new FloorModel().plank(n, k));
             }
         }
+        checks.about("45: each plank by itself, whatever was asked ahead of it");
         VotingFloor again = new VotingFloor();
-        again.plank(60, 9);
-        is("plank(3, 2) behind a longer one", again.plank(3, 2), 0);
+        for (int n = 60; n >= 0; n--) {
+            for (int k = 9; k >= 2; k--) {
+                is("plank(" + n + ", " + k + ")", again.plank(n, k), new FloorModel().plank(n, k));
+            }
+        }
     }
 
     // ---- laws, crossings, years

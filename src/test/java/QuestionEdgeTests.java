@@ -9,6 +9,7 @@ public final class QuestionEdgeTests {
 
     public static void main(String[] args) {
         questionsChangeNothing();
+        rowsAreToldAnew();
         tips();
         later();
         decides();
@@ -122,6 +123,54 @@ public final class QuestionEdgeTests {
     private static void nothingOfNobody(String call, ToLongFunction<VotingFloor> act) {
         edges.refused(QuestionEdgeTests::allOff, call + ", all OFF", -2, act);
         edges.refused(QuestionEdgeTests::nobody, call + ", nobody", -2, act);
+    }
+
+    /** The ROW holds what was told last alone, whatever was told ahead of it. */
+    private static void rowIsToldAnew(String call, ToLongFunction<VotingFloor> act) {
+        VotingFloor longer = Edges.busy();
+        longer.decides();
+        act.applyAsLong(longer);
+        VotingFloor empty = Edges.busy();
+        empty.backs();
+        is("count(9), nothing told", empty.count(9), 0);
+        act.applyAsLong(empty);
+        is("count(9) behind " + call, longer.count(9), empty.count(9));
+        is("more than nothing behind " + call, empty.count(9) > 0 ? 1 : 0, 1);
+        edges.alike(call, longer, empty);
+    }
+
+    private static void rowsAreToldAnew() {
+        checks.about("terms: ROW: numbers told last");
+        rowIsToldAnew("minutes(1)", floor -> floor.minutes(1));
+        rowIsToldAnew("morning()", floor -> tell(floor, "n1").morning());
+        rowIsToldAnew("tips()", VotingFloor::tips);
+        rowIsToldAnew("later(0, 9)", floor -> floor.later(0, 9));
+        rowIsToldAnew("decides()", VotingFloor::decides);
+        rowIsToldAnew("spares()", VotingFloor::spares);
+        rowIsToldAnew("swings()", floor -> floor.swings() + floor.leads(0, 9) + floor.swings());
+        rowIsToldAnew("level()", floor -> floor.steps(0) + floor.steps(1) + floor.level());
+        rowIsToldAnew("rest()", floor -> tell(floor, "0").rule() + floor.rest());
+        rowIsToldAnew("walks(3)", floor -> floor.walks(3));
+        rowIsToldAnew("wall()", VotingFloor::wall);
+        rowIsToldAnew("bears(0)", floor -> floor.leads(1, 0) + floor.bears(0));
+        rowIsToldAnew("canvass()", VotingFloor::canvass);
+        rowIsToldAnew("clears()", VotingFloor::clears);
+        rowIsToldAnew("heads()", VotingFloor::heads);
+        rowIsToldAnew("power(0)", floor -> floor.power(0));
+        rowIsToldAnew("strongest()", VotingFloor::strongest);
+        rowIsToldAnew("just(5)", floor -> floor.just(5));
+        rowIsToldAnew("farthest()", VotingFloor::farthest);
+        rowIsToldAnew("line()", VotingFloor::line);
+        rowIsToldAnew("backs()", floor -> floor.sacks(1, 3) + floor.leads(1, -2) + floor.leads(0, 2) + floor.backs());
+        rowIsToldAnew("crowd()", VotingFloor::crowd);
+        rowIsToldAnew("cares(0)", floor -> floor.cares(0));
+        rowIsToldAnew("looks(0)", floor -> floor.looks(0));
+        rowIsToldAnew("fits()", VotingFloor::fits);
+        rowIsToldAnew("asks()", VotingFloor::asks);
+        rowIsToldAnew("faints(3)", floor -> floor.faints(3));
+        rowIsToldAnew("law()", floor -> tell(floor, "1").law());
+        rowIsToldAnew("crossings(3)", floor -> floor.crossings(3));
+        rowIsToldAnew("years(3, 9)", floor -> floor.years(3, 9));
     }
 
     // ---- how it tips
@@ -392,6 +441,11 @@ public final class QuestionEdgeTests {
         // 7 are wanted: by 3 in three, as 1 and 3 and 3, or 2 and 2 and 3
         is("walks(7)", mixed.walks(7), 3);
         checks.rowIs(mixed, 1, 0, 2);
+        // 36 are wanted: the first one may go on by 2, the next one by 3; by all of these the rest is just done
+        VotingFloor five = placed("4+1;4+1;1+1;3+1;9-1", 7, 6, 5, 4, -8);
+        five.sacks(4, 4);
+        is("walks(15)", five.walks(15), 11);
+        checks.rowIs(five, 2, 3, 1, 5, 0);
         VotingFloor off = placed("5+1;1+1;9+1", -1, 0, -9);
         off.steps(2);
         is("walks(2), PEOPLE who are OFF have 0", off.walks(2), 6);
@@ -671,7 +725,7 @@ public final class QuestionEdgeTests {
         VotingFloor west = placed("1+1;1+1;1+1", 8, -9, 9);
         is("farthest()", west.farthest(), 1);
         checks.rowIs(west, 9, 2);
-        VotingFloor east = placed("1+1;1+1;1+1", 9, -9, 9);
+        VotingFloor east = placed("1+1;1+1;1+1;1+1", 9, -9, 9, 8);
         is("farthest()", east.farthest(), 0);
         checks.rowIs(east, 9, 3);
         checks.about("32: who is not OFF");

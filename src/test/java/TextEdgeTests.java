@@ -22,6 +22,7 @@ public final class TextEdgeTests {
         peopleWithoutRoom();
         peopleTooMany();
         rules();
+        rulesBehindOthers();
         rulesTooLong();
         ones();
         sheetsRefused();
@@ -499,6 +500,22 @@ public final class TextEdgeTests {
         String[] early = {"-", "--", "(", "((((", "(1", "(1+", "1+", "1-", "1*", "1/", "1<", "1>", "1=", "c--", "(c)*", "((c)"};
         for (String text : early) {
             edges.refusedText(text, -1 - text.length(), VotingFloor::rule);
+        }
+    }
+
+    private static void rulesBehindOthers() {
+        checks.about("5: what can't stand leaves nothing to the next one");
+        String[] bad = {"-", "--", "((((", "(((1", "1<2<", "(1<2", "((1<2)<", "1-", "1*", "12", "1+12x", "0-(2*(1x", "q+"};
+        String[][] good = {{"1", "1"}, {"((((1))))", "1"}, {"1<2", "1"}, {"((1<2)<3)<2", "1"}, {"-1", "-1"}, {"2-3", "-1"}, {"1+12-13", "0"}};
+        for (String first : bad) {
+            for (String[] second : good) {
+                VotingFloor floor = withPeople("5+3");
+                tell(floor, first).rule();
+                is("rule() of " + second[0] + " behind " + first, tell(floor, second[0]).rule(), 0);
+                is("one(0, 5)", floor.one(0, 5), Integer.parseInt(second[1]));
+                tell(floor, first).law();
+                is("law() of " + second[0] + " behind " + first, tell(floor, second[0]).law(), 5000);
+            }
         }
     }
 
