@@ -26,6 +26,7 @@ public final class ActEdgeTests {
         undoFifteen();
         undoForgotten();
         undoWhatIsBroughtBack();
+        undoSeven();
         keeps();
         keepsBroughtBack();
         checks.finish();
@@ -535,6 +536,57 @@ public final class ActEdgeTests {
         is("count(7): not what was heard", floor.count(7), 1);
         is("count(10): not THE TEXT", floor.count(10), 3);
         checks.rowIs(floor, 0, 0, 20);
+    }
+
+    /** Seven, of whom each has his own WISH, PLACE and SACK, and some are OFF. */
+    private static VotingFloor sevenApart() {
+        VotingFloor floor = withPeople(Edges.SEVEN);
+        for (int i = 0; i < 7; i++) {
+            floor.leads(i, 3 - 2 * i);
+            floor.sacks(i, 9 - i);
+            floor.turnsTo(i, i - 8);
+        }
+        floor.steps(1);
+        floor.steps(6);
+        floor.noon(33);
+        return floor;
+    }
+
+    private static void sevenAreApart(VotingFloor floor) {
+        for (int i = 0; i < 7; i++) {
+            is("one(" + i + ", 0)", floor.one(i, 0), i + 1);
+            is("one(" + i + ", 1)", floor.one(i, 1), i - 8);
+            is("one(" + i + ", 2)", floor.one(i, 2), 3 - 2 * i);
+            is("one(" + i + ", 3)", floor.one(i, 3), 9 - i);
+            is("one(" + i + ", 4)", floor.one(i, 4), i == 1 || i == 6 ? 1 : 0);
+        }
+        is("count(2)", floor.count(2), 0);
+        is("count(3)", floor.count(3), 33);
+    }
+
+    private static void undoSeven() {
+        checks.about("15: all of PEOPLE, seven");
+        VotingFloor undone = sevenApart();
+        undone.minutes(60);
+        for (int i = 0; i < 7; i++) {
+            undone.steps(i);
+            undone.sacks(i, 1);
+        }
+        for (int left = 14; left >= 0; left--) {
+            is("undo()", undone.undo(), left);
+        }
+        sevenAreApart(undone);
+        checks.about("50: it is as it was kept, seven");
+        VotingFloor kept = sevenApart();
+        for (int i = 0; i <= 2; i++) {
+            kept.keep(i);
+        }
+        for (int k = 0; k <= 2; k++) {
+            kept.noon(60);
+            tell(kept, "n9o0o1o2o3o4o5o6s01s11s21s31s41s51s61t0+9t6+9l6e9l0w9").morning();
+            is("again(" + k + ")", kept.again(k), true);
+            sevenAreApart(kept);
+        }
     }
 
     // ---- promises 49 and 50

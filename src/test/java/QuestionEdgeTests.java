@@ -425,6 +425,9 @@ public final class QuestionEdgeTests {
             is("walks(" + some + ")", already.walks(some), 0);
             checks.rowIs(already, 0, 0);
         }
+        VotingFloor much = heaviest(9);
+        is("walks(127), by much", much.walks(127), 0);
+        checks.rowIs(much, 0, 0, 0, 0, 0, 0, 0);
         checks.about("23: LEVEL is not CARRIED");
         VotingFloor level = withPeople("1+1;1+1");
         is("walks(3)", level.walks(3), 1);
