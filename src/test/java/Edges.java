@@ -33,6 +33,8 @@ final class Edges {
         floor.heard(0, 3);
         floor.heard(4, 0);
         floor.decides();
+        // by this one those who are not OFF walk otherwise than by none, so that it is seen if it is lost
+        Checks.tell(floor, "p-c+q-m/30").rule();
         return Checks.tell(floor, "7-2");
     }
 
