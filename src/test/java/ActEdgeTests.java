@@ -339,6 +339,7 @@ public final class ActEdgeTests {
             {"n1x", 2}, {"n1 ", 2}, {"n1;n1", 2}, {"lx", 1}, {"le", 1}, {"l00", 2}, {"l0n", 2}, {"l0+1", 2}, {"l0ee", 3},
             {"l0w-", 3}, {"l0e11", 4}, {"sx", 1}, {"s0x", 2}, {"s0-1", 2}, {"s011", 3}, {"ox", 1}, {"o0x", 2}, {"o00", 2},
             {"tx", 1}, {"t00", 2}, {"t0e1", 2}, {"t0++", 3}, {"t0+x", 3}, {"t0+11", 4}, {"n1o0x", 4}, {"s05n1l0x", 7},
+            {"t0*1", 2}, {"t0,1", 2}, {"t0 1", 2}, {"t0.1", 2}, {"l0d1", 2}, {"l0f1", 2}, {"l0v1", 2}, {"l0x1", 2}, {"m1", 0},
         };
         for (Object[] one : bad) {
             edges.refusedText((String) one[0], -1 - (Integer) one[1], VotingFloor::morning);

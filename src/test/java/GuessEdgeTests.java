@@ -154,6 +154,15 @@ public final class GuessEdgeTests {
         follows.seen(1, 2, 1);
         is("cares(0): by where the other one went", follows.cares(0), ALL_WISHES & ~0x3FF);
         checks.rowIs(follows, 9, 101, 109);
+        checks.about("38: all that was seen, the last MINUTES told first");
+        VotingFloor order = withPeople("5+3");
+        order.seen(0, 9, 7);
+        order.seen(0, 1, 1);
+        order.seen(0, 0, 0);
+        is("cares(0)", order.cares(0), 1 << 16);
+        checks.rowIs(order, 1, 107, 107);
+        order.seen(0, 8, 8);
+        is("cares(0), nor can that be", order.cares(0), 0);
         checks.about("38: who is OFF stays");
         VotingFloor off = withPeople("5+3");
         off.steps(0);
@@ -208,6 +217,11 @@ public final class GuessEdgeTests {
         tell(sides, "((c>0)-(c<0))*(n>0)").rule();
         is("looks(0), in 2", sides.looks(0), 2);
         checks.rowIs(sides, 9);
+        // out in MINUTE 0, back in MINUTE 1, and once more a week later
+        VotingFloor back = withPeople("5+3");
+        tell(back, "c*(n=0)-c*(n=1)").rule();
+        is("looks(0), in 1, behind which all are on the pin", back.looks(0), 1);
+        checks.rowIs(back, 9);
         VotingFloor west = withPeople("5+3");
         tell(west, "-1*(c<9)").rule();
         is("looks(0), the most in the west", west.looks(0), 1);
@@ -405,6 +419,15 @@ public final class GuessEdgeTests {
         }
         fractionOfFaints(placed("5+3;5+3", 1, -1), 0, 0, 1);
         fractionOfFaints(placed("5+3;5+3", 1, -1), 5, 1, 4);
+        checks.about("44: each who is not OFF, be others OFF ahead of him");
+        for (int off = 0; off < 3; off++) {
+            VotingFloor some = placed("5+3;5+3;5+3", 1, 1, 1);
+            some.steps(off);
+            fractionOfFaints(some, 5, 3, 4);
+            fractionOfFaints(some, 3, 91, 100);
+            some.leads((off + 1) % 3, -2);
+            fractionOfFaints(some, 3, 21, 100);
+        }
         checks.about("44: seven");
         int[] east = {9, 9, 9, 9, 9, 9, 9};
         fractionOfFaints(placed(Edges.SEVEN, east), 0, 1, 1);

@@ -432,6 +432,8 @@ public final class ModelTests {
                 break;
             case 7:
                 both("farthest()", floor::farthest, model::farthest);
+                // else the ROW of the one would be gone, unseen, behind the other
+                compareState();
                 both("line()", floor::line, model::line);
                 break;
             case 8:

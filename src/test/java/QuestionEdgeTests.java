@@ -416,6 +416,11 @@ public final class QuestionEdgeTests {
         is("walks(1), CARRIED by 9", just.walks(1), 9);
         checks.rowIs(just, 9, 0);
         edges.refused(() -> placed("1+1;9+1", 9, -1), "walks(1), who is there", -2, floor -> floor.walks(1));
+        edges.refused(() -> placed("2+1;9+1", 0, -2), "walks(1), LEVEL by twice 9", -2, floor -> floor.walks(1));
+        // from -58 by 5 in nine PLACES, which is not enough, and then by 2 in seven
+        VotingFloor both = placed("5+1;2+1;9+1;4+1", 0, 0, -6, -1);
+        is("walks(3), the heavier one to the wall, the lighter one for the rest", both.walks(3), 16);
+        checks.rowIs(both, 9, 7, 0, 0);
     }
 
     private static void walks() {
@@ -736,6 +741,17 @@ public final class QuestionEdgeTests {
         off.steps(0);
         is("farthest()", off.farthest(), 1);
         checks.rowIs(off, 1, 1);
+        checks.about("32: how many stand as far, and are not OFF");
+        VotingFloor asFar = placed("1+1;1+1;1+1;1+1", 5, -5, 5, -5);
+        asFar.steps(2);
+        is("farthest()", asFar.farthest(), 0);
+        checks.rowIs(asFar, 5, 3);
+        asFar.steps(0);
+        is("farthest(), the first one OFF", asFar.farthest(), 1);
+        checks.rowIs(asFar, 5, 2);
+        asFar.steps(3);
+        is("farthest(), one is left", asFar.farthest(), 1);
+        checks.rowIs(asFar, 5, 1);
     }
 
     private static void line() {

@@ -449,6 +449,16 @@ public final class TextEdgeTests {
                 edges.refusedText(() -> withPeople(some), "2-x;" + fits, -3, VotingFloor::people);
             }
         }
+        checks.about("4: who is OFF has his room, too");
+        VotingFloor off = withPeople("1+1;1+1;1+1;1+1");
+        for (int i = 0; i < 4; i++) {
+            off.steps(i);
+        }
+        is("people()", tell(off, "2-2;2-2;2-2;2-2").people(), -13);
+        is("people()", tell(off, "2-2;2-3;2-4").people(), 3);
+        is("count(0)", off.count(0), 7);
+        is("count(1)", off.count(1), 0b1110000);
+        is("one(6, 1)", off.one(6, 1), -4);
         checks.about("4: nothing of it comes, if a LINE can't");
         VotingFloor floor = withPeople("1+1;1+1;1+1;1+1;1+1");
         is("people()", tell(floor, "2-2;2-2;2-2").people(), -9);
@@ -492,6 +502,7 @@ public final class TextEdgeTests {
             {"()", 1}, {"(+1)", 1}, {"-+1", 1}, {"-)", 1}, {"1 ", 1}, {"1c", 1}, {"c1", 1}, {"cc", 1}, {"1(", 1}, {"c(1)", 1},
             {"1)", 1}, {"c~1", 1}, {"~1", 0}, {"c,", 1}, {"c+)", 2}, {"1++1", 2}, {"1+*1", 2}, {"1<>1", 2}, {"1==1", 2},
             {"1<=1", 2}, {"(1)1", 3}, {"(1)c", 3}, {"(1)(1)", 3}, {"(1))", 3}, {"1.5", 1}, {"1&1", 1}, {"!1", 0}, {"c;", 1},
+            {"(1 )", 2}, {"(1&1)", 2}, {"(c(p))", 2}, {"(1!)", 2}, {"((c'", 3}, {"(c$", 2}, {"(1,1)", 2}, {"(c]", 2},
         };
         for (Object[] one : bad) {
             edges.refusedText((String) one[0], -1 - (Integer) one[1], VotingFloor::rule);
